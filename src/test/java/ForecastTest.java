@@ -128,6 +128,10 @@ public final class ForecastTest {
                         x.wouldFail(0, weight, speed), y.board(0, 8));
             }
         }
+        for (int curve = 0; curve < 4; curve++) {
+            check.due("on the curve " + curve, x.wouldFail(curve, 9, 3), 24);
+            check.due("heaviest on the curve " + curve, x.heaviest(curve), curve == 2 ? NONE : 3);
+        }
         check.due("slow and light", x.wouldFail(0, 1, 1), 3);
         check.due("fast and heavy", x.wouldFail(0, 9, 3), 24);
     }

@@ -15,6 +15,7 @@ public final class LookingTest {
         eachKindAndItsEdge(check);
         faultsAreToldWhereTheyWereFirst(check);
         faultsAreLookedAtInTicksAlone(check);
+        faultsOfSeveralBoards(check);
         worstCell(check);
         worstCellOfThoseThatLeft(check);
         faultCells(check);
@@ -201,6 +202,35 @@ public final class LookingTest {
         check.due("no tick above by setCurve", z.board(0, 7), 0);
         z.pass(1);
         check.due("one tick above", z.board(0, 7), 1);
+    }
+
+    private static void faultsOfSeveralBoards(Check check) {
+        BeggingBoards x = steady();
+        int[] weights = {1, 4, 3, 9, 2};
+        int[] kinds = {1, 24, 0, 24, 0};
+        for (int board = 0; board < 5; board++) {
+            x.load(0, weights[board]);
+            x.pass(2);
+        }
+        x.pass(20);
+        for (int board = 0; board < 5; board++) {
+            check.due("the kinds of board " + board, x.board(board, 8), kinds[board]);
+            check.due("it left at", x.board(board, 10), 11 + 2 * board);
+            check.due("its cell of kind 3", x.fault(board, 3, 0), kinds[board] == 24 ? 24 : NONE);
+            check.due("its tick of kind 3", x.fault(board, 3, 1), kinds[board] == 24 ? 11 + 2 * board : NONE);
+            check.due("its cell of kind 0", x.fault(board, 0, 0), kinds[board] == 1 ? 2 : NONE);
+        }
+        check.due("five have left", x.count(3), 5);
+        check.due("two of them without a fault", x.count(4), 2);
+        check.due("most of kind 4", x.worstCell(4, 0) * 10 + x.worstCell(4, 1), 242);
+        check.due("cells", x.faultCells(), 2);
+        BeggingBoards y = steady();
+        y.load(0, 3);
+        y.pass(12);
+        check.due("the first board of all without a fault", y.count(4), 1);
+        y.undo();
+        y.undo();
+        check.due("one that was never loaded is counted nowhere", y.count(1) + y.count(2) + y.count(3) + y.count(4), 0);
     }
 
     private static void worstCell(Check check) {

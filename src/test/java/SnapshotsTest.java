@@ -15,6 +15,7 @@ public final class SnapshotsTest {
         aSnapshotKeepsEverything(check);
         theTextIsNotKept(check);
         undoOfEachAction(check);
+        pleasAreKept(check);
         onlyActionsAreRecorded(check);
         fiveStates(check);
         undoBringsSlotsBack(check);
@@ -141,23 +142,49 @@ public final class SnapshotsTest {
     }
 
     private static void undoOfEachAction(Check check) {
-        BeggingBoards x = eventful();
-        x.take(0);
-        x.append('t');
-        x.append('0');
         for (int action = 0; action < 9; action++) {
-            if (action == 8) {
-                // setZone needs an empty belt.
-                x.pass(99);
-            }
+            BeggingBoards x = eventful();
+            x.take(0);
+            x.append('t');
+            x.append('1');
+            x.append('1');
+            // setZone needs an empty belt.
+            x.pass(action == 8 ? 99 : 1);
+            x.set(0, 1);
+            x.set(2, 4 + action);
             String before = Looking.atOven(x) + x.count(13);
-            int states = x.count(14);
             act(x, action);
-            check.holds("undo after the action " + action, x.undo() >= 0);
+            check.due("an action is recorded: " + action, x.undo(), 4);
             check.holds("all is as it was before the action " + action,
                     before.equals(Looking.atOven(x) + x.count(13)));
-            check.due("the states after the action " + action, x.count(14), Math.min(states, 4));
         }
+        BeggingBoards y = new BeggingBoards();
+        y.load(0, 1);
+        check.due("the first action is undone", y.undo(), 0);
+        check.holds("to a new object", Looking.atAll(y).equals(Looking.atAll(new BeggingBoards())));
+    }
+
+    /** The speed becomes less and greater by pleas after the snapshot. */
+    private static void pleasAreKept(Check check) {
+        BeggingBoards x = new BeggingBoards();
+        x.set(3, 0);
+        x.set(2, 1);
+        x.setCurve(0, 1, 20);
+        x.setCurve(0, 3, 2);
+        x.load(0, 1);
+        x.take(0);
+        x.pass(1);
+        check.due("less", x.count(11) * 100 + x.count(12) * 10 + x.count(7), 101);
+        x.take(1);
+        x.pass(5);
+        check.due("and greater", x.count(11) * 100 + x.count(12) * 10 + x.count(7), 123);
+        x.restore(1);
+        check.due("as after the first tick", x.count(11) * 100 + x.count(12) * 10 + x.count(7), 101);
+        x.restore(0);
+        check.due("as at first", x.count(11) * 100 + x.count(12) * 10 + x.count(7), 2);
+        x.undo();
+        x.undo();
+        check.due("undone", x.count(11) * 100 + x.count(12) * 10 + x.count(7), 123);
     }
 
     private static void act(BeggingBoards x, int action) {
@@ -166,7 +193,7 @@ public final class SnapshotsTest {
             case 1 -> x.setCurve(0, 0, 77);
             case 2 -> x.set(3, 3);
             case 3 -> x.load(2, 2);
-            case 4 -> x.takeOff(12);
+            case 4 -> x.takeOff(11);
             case 5 -> x.take(1);
             case 6 -> x.restore(0);
             case 7 -> x.carryOut();
