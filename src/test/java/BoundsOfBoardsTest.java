@@ -122,13 +122,8 @@ public final class BoundsOfBoardsTest {
 
     private static void gapWiderThanTheBelt(Bounds b) {
         b.sentence(5, "ILLEGAL_STATE if a board is on the belt in a cell that is less than the gap");
-        Scene last = FRESH.then("the shortest belt, the widest gap, a board in the last cell", x -> {
-            for (int zone = 0; zone < 6; zone++) {
-                x.setZone(zone, 2, 100, 5);
-            }
-            x.set(0, 1);
+        Scene last = Scenes.evenBelt(2, 1).then("the widest gap, a board in the last cell", x -> {
             x.set(1, 20);
-            x.set(2, 0);
             x.load(0, 1);
             x.pass(11);
         });
@@ -207,24 +202,11 @@ public final class BoundsOfBoardsTest {
 
     private static void takeOffInside(Bounds b) {
         b.sentence(6, "Returns the cell where it was");
-        Scene longest = FRESH.then("the longest belt", x -> {
-            for (int zone = 0; zone < 6; zone++) {
-                x.setZone(zone, 8, 100, 5);
-            }
-            x.set(0, 1);
-            x.set(1, 1);
-            x.set(2, 0);
-            x.load(0, 1);
-        });
+        Scene longest = Scenes.evenBelt(8, 1).then("a board", x -> x.load(0, 1));
         b.does(longest, "takeOff at the first cell", 0, x -> x.takeOff(0));
         b.does(longest.then("a tick", x -> x.pass(1)), "takeOff at cell 1", 1, x -> x.takeOff(0));
         b.does(longest.then("47 ticks", x -> x.pass(47)), "takeOff at the last cell", 47, x -> x.takeOff(0));
-        Scene thirty = longest.then("thirty boards", x -> {
-            for (int board = 1; board < 30; board++) {
-                x.pass(1);
-                x.load(0, 1);
-            }
-        });
+        Scene thirty = Scenes.thirtyInARow();
         b.does(thirty, "takeOff of the first one", 29, x -> x.takeOff(0));
         b.does(thirty, "takeOff of the last one", 0, x -> x.takeOff(29));
         BeggingBoards x = thirty.make();
@@ -325,20 +307,8 @@ public final class BoundsOfBoardsTest {
 
     private static void numberThatLeaves(Bounds b) {
         b.sentence(7, "Returns the number of boards that leave");
-        Scene thirty = FRESH.then("thirty boards on the longest belt", x -> {
-            for (int zone = 0; zone < 6; zone++) {
-                x.setZone(zone, 8, 100, 5);
-            }
-            x.set(0, 1);
-            x.set(1, 1);
-            x.set(2, 0);
-            x.load(0, 1);
-            for (int board = 1; board < 30; board++) {
-                x.pass(1);
-                x.load(0, 1);
-            }
-        });
-        // The first one is at cell 29, the last one at cell 0, and cell 47 is the last.
+        Scene thirty = Scenes.thirtyInARow();
+        // The last cell is cell 47.
         b.does(thirty, "pass(18)", 0, x -> x.pass(18));
         b.does(thirty, "pass(19)", 1, x -> x.pass(19));
         b.does(thirty, "pass(20)", 2, x -> x.pass(20));

@@ -250,13 +250,8 @@ public final class BoundsOfFaultsTest {
 
     /** The rise is too steep in the last cell of the longest belt, and nowhere before. */
     private static Scene hotLastCell() {
-        return FRESH.then("a board in the last cell of the longest belt", x -> {
-            for (int zone = 0; zone < 6; zone++) {
-                x.setZone(zone, 8, zone == 5 ? 60 : 20, 5);
-            }
-            x.set(0, 1);
-            x.set(2, 0);
-            x.set(3, 0);
+        return Scenes.evenBelt(8, 1).then("a board in the last cell, where it is warmer", x -> {
+            x.setZone(5, 8, 60, 5);
             x.setCurve(0, STEEPEST, 99);
             x.load(0, 9);
             x.pass(46);
@@ -270,15 +265,9 @@ public final class BoundsOfFaultsTest {
         int[] lengths = {2, 4, 8};
         for (int length : lengths) {
             for (int speed = 1; speed <= 3; speed++) {
-                int cells = speed;
-                BeggingBoards x = FRESH.then("zones of the length " + length, y -> {
-                    for (int zone = 0; zone < 6; zone++) {
-                        y.setZone(zone, length, 20, 5);
-                    }
-                    y.set(0, cells);
-                    y.load(0, 1);
-                    y.pass(50);
-                }).make();
+                BeggingBoards x = Scenes.evenBelt(length, speed).make();
+                x.load(0, 1);
+                x.pass(50);
                 String name = "the length " + length + ", the speed " + speed + ", ";
                 int ticks = (6 * length - 1) / speed;
                 for (int kind = 3; kind <= 4; kind++) {

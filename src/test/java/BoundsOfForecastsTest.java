@@ -35,18 +35,6 @@ public final class BoundsOfForecastsTest {
         b.end();
     }
 
-    private static Scene longest(int speed) {
-        return FRESH.then("the longest belt, the speed " + speed, x -> {
-            for (int zone = 0; zone < 6; zone++) {
-                x.setZone(zone, 8, 20, 5);
-            }
-            x.set(0, speed);
-            x.set(1, 1);
-            x.set(2, 0);
-            x.set(3, 0);
-        });
-    }
-
     // ---- promise 21
 
     private static void foretellOutside(Bounds b) {
@@ -67,7 +55,7 @@ public final class BoundsOfForecastsTest {
 
     private static void foretellOfOneThatIsNotOnTheBelt(Bounds b) {
         b.sentence(21, "ILLEGAL_STATE if it is not on the belt");
-        Scene last = longest(1).then("a board in the last cell", x -> {
+        Scene last = Scenes.evenBelt(8, 1).then("a board in the last cell", x -> {
             x.load(0, 1);
             x.pass(47);
         });
@@ -91,35 +79,24 @@ public final class BoundsOfForecastsTest {
         int[] ofTheLongest = {48, 24, 16};
         int[] ofTheShortest = {12, 6, 4};
         for (int speed = 1; speed <= 3; speed++) {
-            Scene loaded = longest(speed).then("a board", x -> x.load(0, 1));
-            b.tells(loaded, "foretell(0, 2)", ofTheLongest[speed - 1], x -> x.foretell(0, 2));
-            Scene shortest = longest(speed).then("the shortest belt", x -> {
-                for (int zone = 0; zone < 6; zone++) {
-                    x.setZone(zone, 2, 20, 5);
-                }
-                x.load(0, 1);
-            });
+            Scene longest = Scenes.evenBelt(8, speed).then("a board", x -> x.load(0, 1));
+            b.tells(longest, "foretell(0, 2)", ofTheLongest[speed - 1], x -> x.foretell(0, 2));
+            Scene shortest = Scenes.evenBelt(2, speed).then("a board", x -> x.load(0, 1));
             b.tells(shortest, "foretell(0, 2)", ofTheShortest[speed - 1], x -> x.foretell(0, 2));
         }
-        BeggingBoards x = longest(1).then("a board", y -> y.load(0, 1)).make();
+        BeggingBoards x = Scenes.evenBelt(8, 1).then("a board", y -> y.load(0, 1)).make();
         for (int left = 48; left >= 1; left--) {
             b.due("the ticks that are left", x.foretell(0, 2), left);
             b.due("as many pass", x.pass(1), left == 1 ? 1 : 0);
         }
-        Scene thirty = longest(1).then("thirty boards", y -> {
-            y.load(0, 1);
-            for (int board = 1; board < 30; board++) {
-                y.pass(1);
-                y.load(0, 1);
-            }
-        });
+        Scene thirty = Scenes.thirtyInARow();
         b.tells(thirty, "foretell(0, 2)", 19, y -> y.foretell(0, 2));
         b.tells(thirty, "foretell(29, 2)", 48, y -> y.foretell(29, 2));
     }
 
     private static void foretellKindsAndDegrees(Bounds b) {
         b.sentence(21, "0 for the set of kinds of its faults then, 1 for its peak");
-        Scene none = longest(1).then("a curve without faults", x -> {
+        Scene none = Scenes.evenBelt(8, 1).then("a curve without faults", x -> {
             x.setCurve(0, 2, 0);
             x.setCurve(0, 4, 20);
             x.load(0, 1);
@@ -306,6 +283,15 @@ public final class BoundsOfForecastsTest {
         Scene steep = heavy(22).then("a rise of at most 49", x -> x.setCurve(0, 0, 49));
         b.tells(steep, "heaviest(0)", 2, x -> x.heaviest(0));
         b.tells(steep.then("at least 23 ticks", x -> x.setCurve(0, 2, 23)), "heaviest(0)", NONE, x -> x.heaviest(0));
+        // A light board reaches 99 degrees at most; one that had no weight would have 100.
+        Scene weightless = Scenes.flat(100).then("the lowest peak 100", x -> {
+            x.setCurve(0, 0, 99);
+            x.setCurve(0, 2, 0);
+            x.setCurve(0, 4, 100);
+            x.set(0, 1);
+        });
+        b.tells(weightless, "heaviest(0)", NONE, x -> x.heaviest(0));
+        b.tells(weightless.then("the lowest peak 99", x -> x.setCurve(0, 4, 99)), "heaviest(0)", 1, x -> x.heaviest(0));
     }
 
     private static void heaviestAsWouldFailTells(Bounds b) {
@@ -328,7 +314,7 @@ public final class BoundsOfForecastsTest {
         b.sentence(24, "Returns the number of ticks, 0 if it can be now");
         b.tells(FRESH, "room()", 0, BeggingBoards::room);
         for (int speed = 1; speed <= 3; speed++) {
-            Scene loaded = longest(speed).then("a board at cell 0", x -> x.load(0, 1));
+            Scene loaded = Scenes.evenBelt(8, speed).then("a board at cell 0", x -> x.load(0, 1));
             for (int gap = 1; gap <= 20; gap++) {
                 int width = gap;
                 int ticks = 0;
@@ -339,7 +325,7 @@ public final class BoundsOfForecastsTest {
                         loaded.then("", x -> x.set(1, width)).make().room(), ticks);
             }
         }
-        Scene widest = longest(1).then("a board at cell 18, the gap 20", x -> {
+        Scene widest = Scenes.evenBelt(8, 1).then("a board at cell 18, the gap 20", x -> {
             x.set(1, 20);
             x.load(0, 1);
             x.pass(18);
@@ -351,7 +337,7 @@ public final class BoundsOfForecastsTest {
         Scene out = last.then("a tick", x -> x.pass(1));
         b.tells(out, "room()", 0, BeggingBoards::room);
         b.does(out, "load(0, 1)", 1, x -> x.load(0, 1));
-        Scene two = longest(1).then("boards at the cells 1 and 0", x -> {
+        Scene two = Scenes.evenBelt(8, 1).then("boards at the cells 1 and 0", x -> {
             x.load(0, 1);
             x.pass(1);
             x.load(0, 1);
@@ -367,10 +353,7 @@ public final class BoundsOfForecastsTest {
 
     private static void roomOnAShortBelt(Bounds b) {
         b.sentence(24, "Tells in how many ticks a board can be loaded, if only ticks pass");
-        Scene shortest = longest(1).then("the shortest belt, the gap 20", x -> {
-            for (int zone = 0; zone < 6; zone++) {
-                x.setZone(zone, 2, 20, 5);
-            }
+        Scene shortest = Scenes.evenBelt(2, 1).then("the gap 20", x -> {
             x.set(1, 20);
             x.load(0, 1);
         });

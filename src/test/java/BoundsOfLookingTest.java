@@ -15,6 +15,7 @@ public final class BoundsOfLookingTest {
         countInside(b);
         countsAtTheirGreatest(b);
         countOfThoseWithoutAFault(b);
+        thoseThatWereUndoneAreCountedNowhere(b);
         boardOutside(b);
         boardInside(b);
         noneIsNoError(b);
@@ -43,19 +44,7 @@ public final class BoundsOfLookingTest {
 
     private static void countsAtTheirGreatest(Bounds b) {
         b.sentence(14, "1 the number of boards loaded, 2 of boards on the belt, 3 of those that have left");
-        Scene thirty = FRESH.then("thirty boards on the longest belt", x -> {
-            for (int zone = 0; zone < 6; zone++) {
-                x.setZone(zone, 8, 20, 5);
-            }
-            x.set(0, 1);
-            x.set(1, 1);
-            x.set(2, 0);
-            x.load(0, 1);
-            for (int board = 1; board < 30; board++) {
-                x.pass(1);
-                x.load(0, 1);
-            }
-        });
+        Scene thirty = Scenes.thirtyInARow();
         whereTheyAre(b, thirty, 30, 0, 0, 0);
         whereTheyAre(b, thirty.then("18 ticks", x -> x.pass(18)), 30, 0, 0, 0);
         whereTheyAre(b, thirty.then("19 ticks", x -> x.pass(19)), 29, 1, 0, 0);
@@ -100,6 +89,59 @@ public final class BoundsOfLookingTest {
         b.tells(last.then("one leaves, with faults", x -> x.pass(1)), "count(4)", 0, x -> x.count(4));
         b.tells(last.then("the other leaves, without", x -> x.pass(2)), "count(4)", 1, x -> x.count(4));
         b.tells(last.then("it was taken off", x -> x.takeOff(1)), "count(4)", 0, x -> x.count(4));
+    }
+
+    private static void thoseThatWereUndoneAreCountedNowhere(Bounds b) {
+        b.sentence(14, "1 the number of boards loaded, 2 of boards on the belt, 3 of those that have left");
+        Scene curve = Scenes.flat(100).then("a curve without faults", x -> {
+            x.setCurve(0, 2, 0);
+            x.setCurve(0, 4, 20);
+        });
+        Scene left = curve.then("a board that has left", x -> {
+            x.load(0, 1);
+            x.pass(12);
+        });
+        b.due("left without a fault", left.make().count(4), 1);
+        Scene[] scenes = {
+            left.then("undone", x -> {
+                x.undo();
+                x.undo();
+            }),
+            curve.then("a board that was taken off, undone", x -> {
+                x.load(0, 1);
+                x.takeOff(0);
+                x.undo();
+                x.undo();
+            }),
+            curve.then("a board on the belt, undone", x -> {
+                x.load(0, 1);
+                x.pass(1);
+                x.undo();
+                x.undo();
+            }),
+            curve.then("a board that has left, after a snapshot that is restored", x -> {
+                x.take(0);
+                x.load(0, 1);
+                x.pass(12);
+                x.restore(0);
+            }),
+            curve.then("a board with a fault, after a snapshot that is restored", x -> {
+                x.take(0);
+                x.setCurve(0, 0, 1);
+                x.load(0, 1);
+                x.pass(1);
+                x.restore(0);
+            })};
+        for (Scene scene : scenes) {
+            for (int what = 1; what <= 5; what++) {
+                b.due(scene.name + ", count " + what, scene.make().count(what), 0);
+            }
+            for (int zone = 0; zone < 6; zone++) {
+                b.due(scene.name + ", in zone " + zone, scene.make().zone(zone, 5) + scene.make().zone(zone, 6), 0);
+            }
+            b.due(scene.name + ", with a fault", scene.make().worstCell(0, 1) + scene.make().faultCells(), 0);
+            b.due(scene.name + ", room", scene.make().room(), 0);
+        }
     }
 
     // ---- promise 17

@@ -172,23 +172,15 @@ public final class BoundsOfOvenTest {
     private static void lengthOfTheBelt(Bounds b) {
         b.sentence(2, "Returns the length of the belt then");
         b.does(FRESH, "zones of the lengths 4 and once 3", 23, x -> x.setZone(3, 3, 100, 5));
-        b.due("six shortest zones", evenZones(2).make().count(6), 12);
-        b.due("six longest zones", evenZones(8).make().count(6), 48);
-        b.does(evenZones(2), "the shortest belt", 12, x -> x.setZone(5, 2, 60, 5));
-        b.does(evenZones(8), "the longest belt", 48, x -> x.setZone(0, 8, 60, 5));
+        b.due("six shortest zones", Scenes.evenBelt(2, 2).make().count(6), 12);
+        b.due("six longest zones", Scenes.evenBelt(8, 2).make().count(6), 48);
+        b.does(Scenes.evenBelt(2, 2), "the shortest belt", 12, x -> x.setZone(5, 2, 60, 5));
+        b.does(Scenes.evenBelt(8, 2), "the longest belt", 48, x -> x.setZone(0, 8, 60, 5));
         b.sentence(15, "4 its first cell");
         for (int zone = 0; zone < 6; zone++) {
-            b.due("of the shortest zone " + zone, evenZones(2).make().zone(zone, 4), 2 * zone);
-            b.due("of the longest zone " + zone, evenZones(8).make().zone(zone, 4), 8 * zone);
+            b.due("of the shortest zone " + zone, Scenes.evenBelt(2, 2).make().zone(zone, 4), 2 * zone);
+            b.due("of the longest zone " + zone, Scenes.evenBelt(8, 2).make().zone(zone, 4), 8 * zone);
         }
-    }
-
-    private static Scene evenZones(int length) {
-        return FRESH.then("zones of the length " + length, x -> {
-            for (int zone = 0; zone < 6; zone++) {
-                x.setZone(zone, length, 100, 5);
-            }
-        });
     }
 
     private static void setZoneWithABoardOnTheBelt(Bounds b) {

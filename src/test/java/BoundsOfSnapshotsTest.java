@@ -18,6 +18,7 @@ public final class BoundsOfSnapshotsTest {
         emptySlots(b);
         inPlaceOfOne(b);
         whatASnapshotKeeps(b);
+        countsOfPleasAreKept(b);
         whatASnapshotDoesNotKeep(b);
         emptyHistory(b);
         atMostFiveStates(b);
@@ -109,23 +110,19 @@ public final class BoundsOfSnapshotsTest {
     private static void whatASnapshotKeeps(Bounds b) {
         b.sentence(8, "A snapshot keeps everything but the text, the slots and the history");
         for (Scene scene : Scenes.ALL) {
-            BeggingBoards as = scene.make();
-            as.take(0);
-            String before = Looking.atOven(scene.make());
-            b.holds(scene.name + ", take changes nothing in the oven", Looking.atOven(as).equals(before));
-            BeggingBoards x = scene.make();
-            x.take(0);
-            upset(x);
-            BeggingBoards other = scene.make();
-            other.take(0);
-            upset(other);
-            b.holds(scene.name + ", all is upset", !Looking.atOven(other).equals(before));
-            x.restore(0);
-            b.holds(scene.name + ", restore makes all as it was", Looking.atOven(x).equals(before));
+            Scene taken = scene.then("take(0)", x -> x.take(0));
+            String before = taken.ovenAfter(x -> 0, x -> x.count(0));
+            b.holds(scene.name + ", all is upset", !taken.ovenAfter(x -> upset(x), x -> x.count(0)).equals(before));
+            b.holds(scene.name + ", all is as it was", taken.ovenAfter(x -> upset(x), x -> x.restore(0)).equals(before));
+            Scene other = scene.then("take(1)", x -> x.take(1));
+            b.holds(scene.name + ", take changes nothing in the oven",
+                    other.ovenAfter(x -> x.take(1), x -> 0).equals(other.ovenAfter(x -> 0, x -> 0)));
+            b.holds(scene.name + ", all is as it was by the slot 1", other.ovenAfter(x -> upset(x), x -> x.restore(1))
+                    .equals(other.ovenAfter(x -> 0, x -> x.count(0))));
         }
     }
 
-    private static void upset(BeggingBoards x) {
+    private static int upset(BeggingBoards x) {
         x.pass(5);
         for (int board = 0; board < 30; board++) {
             x.takeOff(board);
@@ -136,7 +133,47 @@ public final class BoundsOfSnapshotsTest {
             x.set(number % 4, 3);
         }
         x.load(3, 3);
-        x.pass(9);
+        return x.pass(9);
+    }
+
+    /** The speed, and how often it became less and greater by pleas. */
+    private static void speedIs(Bounds b, BeggingBoards x, int speed, int slowed, int hastened) {
+        b.due("the speed", x.count(7), speed);
+        b.due("less by pleas", x.count(11), slowed);
+        b.due("greater by pleas", x.count(12), hastened);
+    }
+
+    private static void countsOfPleasAreKept(Bounds b) {
+        b.sentence(9, "To restore it makes all this as it was");
+        BeggingBoards x = Scenes.flat(300).then("pleas for slower, then for faster", y -> {
+            y.setCurve(0, 0, 1);
+            y.setCurve(1, 0, 99);
+            y.setCurve(1, 1, 20);
+            y.setCurve(1, 3, 0);
+            y.set(0, 3);
+            y.set(1, 1);
+            y.set(2, 1);
+        }).make();
+        x.take(0);
+        x.load(0, 9);
+        x.pass(1);
+        speedIs(b, x, 2, 1, 0);
+        x.take(1);
+        x.takeOff(0);
+        x.load(1, 9);
+        x.pass(1);
+        speedIs(b, x, 3, 1, 1);
+        x.restore(0);
+        speedIs(b, x, 3, 0, 0);
+        x.restore(1);
+        speedIs(b, x, 2, 1, 0);
+        b.sentence(10, "undo() removes the latest state from the history and restores it");
+        x.undo();
+        speedIs(b, x, 3, 0, 0);
+        x.undo();
+        speedIs(b, x, 3, 1, 1);
+        x.undo();
+        speedIs(b, x, 2, 1, 0);
     }
 
     private static void whatASnapshotDoesNotKeep(Bounds b) {

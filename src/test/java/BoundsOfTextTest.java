@@ -29,6 +29,7 @@ public final class BoundsOfTextTest {
         numbersOfTakeOff(b);
         numbersOfSpeed(b);
         upToTheFirstError(b);
+        oneTextAfterAnother(b);
         oneAction(b);
         alsoIfNoOrderIsCarriedOut(b);
         b.end();
@@ -67,12 +68,12 @@ public final class BoundsOfTextTest {
     private static void isAppended(Bounds b, Scene scene, int character, int length) {
         String call = scene.name + ": append(" + character + ")";
         BeggingBoards x = scene.make();
-        String before = Looking.atOven(x);
         int states = x.count(14);
         b.due(call, x.append(character), length);
         b.due(call + ", the length", x.count(15), length);
         b.due(call + ", is no action", x.count(14), states);
-        b.holds(call + ", changes nothing else", Looking.atOven(x).equals(before));
+        b.holds(call + ", changes nothing else",
+                scene.ovenAfter(y -> y.append(character), y -> 0).equals(scene.ovenAfter(y -> 0, y -> 0)));
     }
 
     private static void hundredCharacters(Bounds b) {
@@ -115,7 +116,8 @@ public final class BoundsOfTextTest {
             b.due("clearText()", x.clearText(), before.count(15));
             b.due("the length", x.count(15), 0);
             b.due("the states", x.count(14), before.count(14));
-            b.holds("nothing else changes", Looking.atOven(x).equals(Looking.atOven(before)));
+            b.holds("nothing else changes",
+                    scene.ovenAfter(BeggingBoards::clearText, y -> 0).equals(scene.ovenAfter(y -> 0, y -> 0)));
             b.due("carryOut() of the empty text", x.carryOut(), -2000);
         }
     }
@@ -352,6 +354,31 @@ public final class BoundsOfTextTest {
         b.due("one tick", x.count(0), 1);
         b.sentence(13, "Returns the number of orders that are carried out");
         b.due("an order that answers 0 counts", carriedOut(b, FRESH, "l0,1;t0;p1", 3).count(0), 1);
+    }
+
+    private static void oneTextAfterAnother(Bounds b) {
+        b.sentence(13, "and makes the text empty");
+        String[] first = {"p1", "p1;p1;p1", "p1;p0;p1", "p0;p99", Scenes.fullOfOrders()};
+        for (String text : first) {
+            BeggingBoards x = text(text).make();
+            x.carryOut();
+            int ticks = x.count(0);
+            b.due("after '" + text + "' carryOut()", x.carryOut(), -2000);
+            Scenes.write(x, "p2;p3;p4");
+            b.due("after '" + text + "' the next one", x.carryOut(), 3);
+            b.due("after '" + text + "' its ticks", x.count(0), ticks + 9);
+        }
+        BeggingBoards cleared = text("p9;p0").make();
+        cleared.clearText();
+        Scenes.write(cleared, "p1");
+        b.due("after one that was cleared", cleared.carryOut(), 1);
+        b.due("its tick", cleared.count(0), 1);
+        BeggingBoards undone = text("p9;p0").make();
+        undone.carryOut();
+        undone.undo();
+        Scenes.write(undone, "p1;p1");
+        b.due("after one that was undone", undone.carryOut(), 2);
+        b.due("its ticks", undone.count(0), 2);
     }
 
     private static void oneAction(Bounds b) {

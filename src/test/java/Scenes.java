@@ -95,6 +95,30 @@ final class Scenes {
         return orders.toString();
     }
 
+    /** Zones of one length, all at 20 degrees, and the gap 1; boards change neither the zones nor the speed. */
+    static Scene evenBelt(int length, int speed) {
+        return new Scene("zones of the length " + length + ", the speed " + speed, x -> {
+            for (int zone = 0; zone < 6; zone++) {
+                x.setZone(zone, length, 20, 5);
+            }
+            x.set(0, speed);
+            x.set(1, 1);
+            x.set(2, 0);
+            x.set(3, 0);
+        });
+    }
+
+    /** The longest belt at the speed 1, with the board 0 in cell 29, and so on to the board 29 in cell 0. */
+    static Scene thirtyInARow() {
+        return evenBelt(8, 1).then("thirty boards in a row", x -> {
+            x.load(0, 1);
+            for (int board = 1; board < 30; board++) {
+                x.pass(1);
+                x.load(0, 1);
+            }
+        });
+    }
+
     /** All zones have the same target, and boards change neither the zones nor the speed. */
     static Scene flat(int target) {
         return new Scene("all zones at " + target, x -> {
