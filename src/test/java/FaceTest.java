@@ -1,37 +1,28 @@
-import java.io.IOException;
 import java.lang.reflect.Constructor;
 import java.lang.reflect.Field;
 import java.lang.reflect.Method;
 import java.lang.reflect.Modifier;
-import java.nio.file.Files;
-import java.nio.file.Path;
 import java.util.HashSet;
 import java.util.Set;
 import java.util.TreeSet;
-import java.util.regex.Matcher;
-import java.util.regex.Pattern;
 
-/** The public face, and those rules of ../shared/LANGUAGE.md that can be seen from outside the code. */
+/** The public face, as it is seen from outside; RulesTest looks at the source. */
 public final class FaceTest {
-    private static final Path SOURCE = Path.of("src/main/java/BeggingBoards.java");
     private static final String[] METHODS = {
         "setZone 4", "setCurve 3", "set 2", "load 2", "takeOff 1", "pass 1", "take 1", "restore 1", "undo 0",
         "append 1", "clearText 0", "carryOut 0", "count 1", "zone 2", "curve 2", "board 2", "fault 3",
         "worstCell 2", "faultCells 0", "foretell 2", "wouldFail 3", "heaviest 1", "room 0"};
-    private static final String[] FORBIDDEN = {
-        "throw", "throws", "try", "catch", "synchronized", "assert", "import", "package", "protected", "record"};
 
     private FaceTest() {
     }
 
-    public static void main(String[] args) throws IOException {
+    public static void main(String[] args) {
         Check check = new Check("FaceTest");
         constants(check);
         face(check);
         for (Class<?> inner : BeggingBoards.class.getDeclaredClasses()) {
             classInside(check, inner);
         }
-        source(check, Files.readString(SOURCE));
         check.end();
     }
 
@@ -98,20 +89,5 @@ public final class FaceTest {
             }
         }
         check.holds(inner + " has at most twenty fields", fields <= 20);
-    }
-
-    private static void source(Check check, String source) {
-        String code = source.replaceAll("(?s)/\\*.*?\\*/", " ").replaceAll("//[^\n]*", " ");
-        for (String word : FORBIDDEN) {
-            check.holds("the source does not say " + word, !Pattern.compile("\\b" + word + "\\b").matcher(code).find());
-        }
-        check.holds("no lambda and no method reference", !code.contains("->") && !code.contains("::"));
-        check.holds("no static block", !Pattern.compile("static\\s*\\{").matcher(code).find());
-        check.holds("signs 1 to 127 alone", source.chars().allMatch(c -> c >= 1 && c <= 127));
-        Matcher library = Pattern.compile("\\b(System|Math|Long|Integer|Arrays)\\.(\\w+)").matcher(code);
-        Set<String> allowed = Set.of("arraycopy", "min", "max", "bitCount");
-        while (library.find()) {
-            check.holds(library.group() + " is of the library that is allowed", allowed.contains(library.group(2)));
-        }
     }
 }

@@ -129,4 +129,11 @@ final class Scenes {
             x.set(3, 0);
         });
     }
+
+    static BeggingBoards flatBelt(int target, int speed) {
+        BeggingBoards x = flat(target).make();
+        x.set(0, speed);
+        x.set(1, 1);
+        return x;
+    }
 }

@@ -9,8 +9,11 @@ final class Walk {
         int on(BeggingBoards x, int value);
     }
 
-    // The three walks join at these headings.
+    // The walks join at these headings.
     static final String START = "# BeggingBoards";
+    static final String TERMS = "## Terms";
+    static final String TICKS = "### A tick";
+    static final String STATES = "### Text";
     static final String PROMISES = "## Promise 1:";
     static final String LOOKING = "## Promise 14:";
     static final String END = "";

@@ -121,7 +121,8 @@ public final class WalkOfActionsTest {
         int[] most = {99, 300, 99, 99, 300, 300};
         for (int what = 0; what < 6; what++) {
             int number = what;
-            w.outside(LOADED, "setCurve(1, " + what + ", ..)", least[what], most[what], (y, v) -> y.setCurve(1, number, v));
+            w.outside(LOADED, "setCurve(1, " + what + ", ..)", least[what], most[what],
+                    (y, v) -> y.setCurve(1, number, v));
         }
         w.says("Returns the previous number;");
         int[] first = {40, 180, 2, 6, 190, 240};
@@ -431,6 +432,16 @@ public final class WalkOfActionsTest {
         return x;
     }
 
+    private static void isOneAction(Walk w, Scene scene) {
+        BeggingBoards x = scene.make();
+        int states = x.count(14);
+        w.holds(scene.name + ": it is carried out", x.carryOut() >= 0);
+        w.due(scene.name + ": the states", x.count(14), Math.min(5, states + 1));
+        String before = scene.ovenAfter(y -> 0, y -> 0);
+        w.holds(scene.name + ": undone",
+                scene.ovenAfter(BeggingBoards::carryOut, y -> y.undo() >= 0 ? 0 : 1).equals(before));
+    }
+
     private static void carryOut(Walk w) {
         w.heading("## Promise 13: carryOut");
         w.says("`int carryOut()`: Carries out the orders of the text, one after another,"
@@ -458,6 +469,13 @@ public final class WalkOfActionsTest {
         w.due("undone at once", stopped.undo(), 0);
         w.due("no tick", stopped.count(0), 0);
         w.due("the text stays empty", stopped.count(15), 0);
+        Scenes.write(stopped, "p3");
+        w.due("the next text is read from its first order", stopped.carryOut(), 1);
+        w.due("three ticks", stopped.count(0), 3);
+        Scene[] scenes = {Scenes.BUSY, Scenes.FULL, Scenes.LATE, Scenes.EMPTIED};
+        for (Scene scene : scenes) {
+            isOneAction(w, scene);
+        }
         w.says("also if no order is carried out.");
         BeggingBoards none = told("t0;p9");
         w.due("orders", none.carryOut(), 0);

@@ -85,6 +85,13 @@ public final class WalkOfLookingTest {
         w.says("4 of those of these that have no fault,");
         w.due("the second has one", last.board(1, 8), 1);
         counts(w, 4, x, 0, later, 1, last, 1);
+        BeggingBoards restored = new BeggingBoards();
+        restored.take(0);
+        restored.load(0, 3);
+        restored.pass(12);
+        w.due("it has none", restored.count(4), 1);
+        w.due("back to the ticks", restored.restore(0), 0);
+        w.due("it was not loaded yet", restored.count(4), 0);
         w.says("5 of boards taken off,");
         counts(w, 5, x, 1, later, 1, last, 1);
         w.says("6 the length of the belt,");
@@ -416,6 +423,10 @@ public final class WalkOfLookingTest {
         w.due("one", steepAt(2).worstCell(0, 0), 2);
         w.due("two against one", steepAt(1, 3, 3).worstCell(0, 0), 3);
         w.due("the length of the belt", faulty().worstCell(3, 0), 24);
+        BeggingBoards longest = Scenes.evenBelt(8, 3).make();
+        longest.load(0, 1);
+        longest.pass(16);
+        w.due("the length of the longest belt", longest.worstCell(4, 0), 48);
         w.says("of several the smallest.");
         w.due("one and one", steepAt(3, 2).worstCell(0, 0), 2);
         w.due("two and two, and one", steepAt(3, 2, 3, 1, 2).worstCell(0, 0), 2);
@@ -614,6 +625,8 @@ public final class WalkOfLookingTest {
         w.due("a peak of 216 against 216", steep.heaviest(0), 2);
         steep.setCurve(0, 4, 217);
         w.due("a peak of 216 against 217", steep.heaviest(0), NONE);
+        steep.setCurve(0, 0, 50);
+        w.due("a rise of 50 against 50", steep.heaviest(0), 1);
         w.says("as wouldFail() tells it with the speed 0.");
         for (Scene scene : Scenes.ALL) {
             for (int curve = 0; curve < 4; curve++) {
@@ -668,8 +681,9 @@ public final class WalkOfLookingTest {
 
     private static void notPromised(Walk w) {
         w.heading("## Not promised How the state is held inside the object is free, as are the speed of each call,"
-                + " the text of toString and the behaviour of equals and hashCode. Use of one object from several threads"
-                + " at once is not promised to be safe. Nothing is promised beyond the answers and state changes described"
-                + " above, and nothing about an object after its 512th call.");
+                + " the text of toString and the behaviour of equals and hashCode.");
+        w.heading("Use of one object from several threads at once is not promised to be safe.");
+        w.heading("Nothing is promised beyond the answers and state changes described above,"
+                + " and nothing about an object after its 512th call.");
     }
 }
