@@ -648,6 +648,14 @@ public final class WalkOfLookingTest {
         w.refuses(Scenes.FULL, "heaviest(4)", INVALID, y -> y.heaviest(4));
         w.says("NONE if there is none.");
         w.due("no zone is warm", Scenes.flat(20).make().heaviest(0), NONE);
+        // Of the weight 1 it has 60, 80, 90, 95, 97, 98 and 99 degrees; only without a weight it would have 100.
+        BeggingBoards light = Scenes.flat(100).make();
+        light.setCurve(0, 0, 99);
+        light.setCurve(0, 2, 0);
+        light.setCurve(0, 4, 99);
+        w.due("a peak of 99 against 99", light.heaviest(0), 1);
+        light.setCurve(0, 4, 100);
+        w.due("a peak of 99 against 100", light.heaviest(0), NONE);
     }
 
     private static void room(Walk w) {
